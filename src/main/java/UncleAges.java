@@ -34,7 +34,7 @@ public final class UncleAges {
     private final Rows rows;
     private final Fits fits;
     private final Few few;
-    private final Shortest least;
+    private final Shortest settler;
     private final Giving giving;
     private final Family family;
     private final Casks casks;
@@ -49,7 +49,7 @@ public final class UncleAges {
         rows = new Rows(told);
         fits = new Fits();
         few = new Few();
-        least = new Shortest();
+        settler = new Shortest();
         giving = new Giving();
         family = new Family();
         casks = new Casks();
@@ -737,20 +737,20 @@ public final class UncleAges {
         if (!few.gather(rows, remarks)) {
             return TOO_MANY;
         }
-        if (few.many == 0 || !least.find(few, told)) {
+        if (few.many == 0 || !settler.find(few, told)) {
             return NO_ROW;
         }
         switch (what) {
             case 0:
-                return least.signs;
+                return settler.signs;
             case 1:
-                return least.sort;
+                return settler.sort;
             case 2:
-                return least.first;
+                return settler.first;
             case 3:
-                return least.sort == 0 ? -2 : least.second;
+                return settler.sort == 0 ? -2 : settler.second;
             default:
-                return least.number;
+                return settler.number;
         }
     }
 

@@ -182,6 +182,9 @@ public final class FittingTest {
         DUE.is("17: what 2", x.fewest(0, 2), -1);
         DUE.is("17: what -1", x.fewest(0, -1), -1);
         DUE.is("17: REMARK not told", x.fewest(64, 0), -1);
+        Due.remark(x, 9, "10*a+b=37");
+        DUE.is("17: the fewest ahead of the least bits", x.fewest(0, 1), 512);
+        DUE.is("17: one alone", x.fewest(0, 0), 1);
         UncleAges y = people(0, 1, 0, 1, 0, 1, 0, 1);
         for (int k = 0; k < 4; k++) {
             Due.remark(y, k, (char) ('a' + k) + "=1");
@@ -366,6 +369,7 @@ public final class FittingTest {
         DUE.is("29: what -1", x.shortest(0, -1), -1);
         shortestIs(people(), 0, -2);
         shortestIs(people(7, 7), 0, 3, 0, 0, -2, 7);
+        shortestIs(people(9, 10), 0, 3, 0, 0, -2, 9);
         shortestIs(people(10, 12), 0, 4, 0, 0, -2, 10);
         shortestIs(people(10, 12, 5, 5, 3, 4), 0, -2);
         UncleAges older = people(5, 6, 2, 3);
