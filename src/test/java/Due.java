@@ -22,6 +22,13 @@ final class Due {
         is(call, got ? 1 : 0, want ? 1 : 0);
     }
 
+    void is(String call, String got, String want) {
+        if (!got.equals(want)) {
+            System.out.println(name + ": " + got + "\n" + want);
+        }
+        is(call, got.equals(want), true);
+    }
+
     boolean isWrong() {
         return wrong != 0;
     }
@@ -51,6 +58,15 @@ final class Due {
             bytes[i] = signs[i];
         }
         bytes(x, bytes);
+    }
+
+    /** A fresh object that has been told people a, b, .. from LOW to HIGH each. */
+    static UncleAges people(int... lowHigh) {
+        UncleAges x = new UncleAges();
+        for (int p = 0; p < lowHigh.length / 2; p++) {
+            x.person(p, lowHigh[2 * p], lowHigh[2 * p + 1]);
+        }
+        return x;
     }
 
     static int remark(UncleAges x, int k, String text) {
